@@ -47,9 +47,13 @@ public final class SpanShelves {
     private int latestShelf = NONE;
 
     public SpanShelves() {
+        Span empty = new Span(5);
+        empty.appendLowestFirst(5, 5);
         Span draft = new Span(DOCUMENT_MOST);
         for (int i = 0; i < SHELVES; i++) {
-            shelves[i] = new Shelf(draft);
+            Shelf s = new Shelf(draft);
+            s.become(empty);
+            shelves[i] = s;
         }
     }
 
@@ -221,7 +225,8 @@ public final class SpanShelves {
         refuseNoElement(s);
         reader.judgeElement(given, false, type, s.cursor.depth());
         refuseFault(reader.fault, reader.place);
-        return replaceValue(shelf, type, given, 0, given.size);
+        s.draftValue(type, given, 0, given.size);
+        return finishChange(shelf, s.cursor.number);
     }
 
     public int put(int shelf, int i, int type) throws IndexOutOfBoundsException, NoSuchElementException, IllegalArgumentException, UnsupportedOperationException {
@@ -297,7 +302,8 @@ public final class SpanShelves {
         int levels = reader.levelsIn(source.bytes, type, source.valuePlace());
         boolean tooDeep = s.cursor.depth() + levels > DEPTH_MOST;
         refuseFault(tooDeep ? FAULT_DEPTH : 0, tooDeep ? 0 : NONE);
-        return replaceValue(shelf, type, source.bytes, source.valuePlace(), source.valueEnd());
+        s.draftValue(type, source.bytes, source.valuePlace(), source.valueEnd());
+        return finishChange(shelf, s.cursor.number);
     }
 
     public int set(int shelf, int type, long v) throws IndexOutOfBoundsException, NoSuchElementException, IllegalArgumentException, UnsupportedOperationException {
@@ -312,7 +318,8 @@ public final class SpanShelves {
         refuseFault(fault, fault == 0 ? NONE : 0);
         plain.clear();
         plain.appendLowestFirst(v, Form.widthOf(type));
-        return replaceValue(shelf, type, plain, 0, plain.size);
+        s.draftValue(type, plain, 0, plain.size);
+        return finishChange(shelf, s.cursor.number);
     }
 
     public int latest(int what) {
@@ -425,16 +432,6 @@ public final class SpanShelves {
         }
     }
 
-    private int replaceValue(int shelf, int type, Span from, int start, int end) {
-        Shelf s = shelfOf(shelf);
-        int number = s.cursor.number;
-        s.startDraft();
-        s.keepElements(0, number);
-        s.addElement(type, s.bytes, s.elementPlace() + 1, from, start, end);
-        s.keepElements(number + 1, s.cursor.count);
-        return finishChange(shelf, number);
-    }
-
     private int finishChange(int shelf, int number) {
         Shelf s = shelfOf(shelf);
         if (!s.finishDraft(number)) {
@@ -533,7 +530,7 @@ public final class SpanShelves {
         /** The place of the first 0 from start on and ahead of wall, or NONE. */
         int zeroFrom(int start, int wall) {
             for (int p = start; p < wall; p++) {
-                if (at(p) == 0) {
+                if (p >= 0 && p < size && cells[p] == 0) {
                     return p;
                 }
             }
@@ -674,7 +671,8 @@ public final class SpanShelves {
 
     /**
      * Judges bytes from left to right and counts what it passes. Each reading method answers the place behind what
-     * it read, or NONE behind a fault; the wall is never ahead of the place at which a method begins.
+     * it read, or NONE behind a fault; those that begin at the place NONE do nothing, so that the first fault stays.
+     * The wall is never ahead of the place at which a method begins.
      */
     private static final class Reader {
         private Span from = new Span(0);
@@ -708,9 +706,7 @@ public final class SpanShelves {
                 return;
             }
             valuePlace = isNamed ? readName(0, bytes.size) : 0;
-            if (fault == 0) {
-                refuseLeftOver(readValue(type, valuePlace, bytes.size, depth));
-            }
+            refuseLeftOver(readValue(type, valuePlace, bytes.size, depth));
         }
 
         void judgeOpening(Span bytes, boolean isNamed, int type, int depth) {
@@ -720,9 +716,7 @@ public final class SpanShelves {
                 return;
             }
             valuePlace = isNamed ? readName(0, bytes.size) : 0;
-            if (fault == 0) {
-                refuseLeftOver(type == TYPE_SCOPED ? readText(valuePlace, bytes.size) : valuePlace);
-            }
+            refuseLeftOver(type == TYPE_SCOPED ? readText(valuePlace, bytes.size) : valuePlace);
             if (fault == 0 && depth >= DEPTH_MOST) {
                 refuse(FAULT_DEPTH, bytes.size);
             }
@@ -772,10 +766,16 @@ public final class SpanShelves {
         }
 
         private int readBytes(int p, int n, int wall) {
+            if (p == NONE) {
+                return NONE;
+            }
             return n > wall - p ? refuse(FAULT_CUT, p) : p + n;
         }
 
         private int readName(int p, int wall) {
+            if (p == NONE) {
+                return NONE;
+            }
             int zero = from.zeroFrom(p, wall);
             if (zero == NONE) {
                 return refuse(FAULT_CUT, p);
@@ -790,11 +790,6 @@ public final class SpanShelves {
                 return refuse(FAULT_CUT, p);
             }
             return Form.isRowName(from, p, zero, number) ? zero + 1 : refuse(FAULT_ROW_NAME, p);
-        }
-
-        private int readTwoNames(int p, int wall) {
-            int second = readName(p, wall);
-            return second == NONE ? NONE : readName(second, wall);
         }
 
         private int readText(int p, int wall) {
@@ -818,11 +813,6 @@ public final class SpanShelves {
             }
             countLength(n);
             return last + 1;
-        }
-
-        private int readTextAndTwelve(int p, int wall) {
-            int twelve = readText(p, wall);
-            return twelve == NONE ? NONE : readBytes(twelve, 12, wall);
         }
 
         private int readBinary(int p, int wall) {
@@ -866,15 +856,14 @@ public final class SpanShelves {
                 return refuse(FAULT_CUT, p);
             }
             countLength(n);
-            int document = readText(p + 4, p + n);
-            if (document == NONE) {
-                return NONE;
-            }
-            int end = readDocument(document, p + n, depth + 1, false);
+            int end = readDocument(readText(p + 4, p + n), p + n, depth + 1, false);
             return end != NONE && end != p + n ? refuse(FAULT_LENGTH, p) : end;
         }
 
         private int readDocument(int p, int wall, int depth, boolean isRow) {
+            if (p == NONE) {
+                return NONE;
+            }
             if (depth > DEPTH_MOST) {
                 return refuse(FAULT_DEPTH, p);
             }
@@ -927,8 +916,8 @@ public final class SpanShelves {
                 case TYPE_ROW: return readDocument(p, wall, depth + 1, true);
                 case TYPE_BINARY: return readBinary(p, wall);
                 case TYPE_BOOLEAN: return readBoolean(p, wall);
-                case TYPE_TWO_NAMES: return readTwoNames(p, wall);
-                case TYPE_TEXT_AND_TWELVE: return readTextAndTwelve(p, wall);
+                case TYPE_TWO_NAMES: return readName(readName(p, wall), wall);
+                case TYPE_TEXT_AND_TWELVE: return readBytes(readText(p, wall), 12, wall);
                 case TYPE_SCOPED: return readScoped(p, wall, depth);
                 default: return readBytes(p, Form.widthOf(type), wall);
             }
@@ -952,7 +941,8 @@ public final class SpanShelves {
             level = 0;
             documentPlaces[0] = 0;
             documentTypes[0] = 0;
-            toFirstElement(bytes);
+            findStarts(bytes);
+            toNumberOrLast(0);
         }
 
         void become(Cursor other, Span bytes) {
@@ -976,7 +966,8 @@ public final class SpanShelves {
             level++;
             documentPlaces[level] = Form.documentIn(bytes, type, bytes.behindName(place + 1));
             documentTypes[level] = type;
-            toFirstElement(bytes);
+            findStarts(bytes);
+            toNumberOrLast(0);
             return true;
         }
 
@@ -988,11 +979,6 @@ public final class SpanShelves {
             number = wayNumbers[level];
             findStarts(bytes);
             return true;
-        }
-
-        private void toFirstElement(Span bytes) {
-            findStarts(bytes);
-            number = count > 0 ? 0 : NONE;
         }
 
         /** To be called whenever the innermost document is another one, or has been changed. */
@@ -1008,6 +994,7 @@ public final class SpanShelves {
             starts[count] = last;
         }
 
+        /** Without elements the last one's number is NONE. */
         void toNumberOrLast(int wish) {
             number = Math.min(wish, count - 1);
         }
@@ -1084,8 +1071,6 @@ public final class SpanShelves {
 
         Shelf(Span sharedDraft) {
             draft = sharedDraft;
-            bytes.appendLowestFirst(5, 5);
-            cursor.toRoot(bytes);
         }
 
         void become(Span document) {
@@ -1138,6 +1123,14 @@ public final class SpanShelves {
             }
             draft.appendPart(values, valueStart, valueEnd);
             drafted++;
+        }
+
+        /** The element gets another type and value. */
+        void draftValue(int type, Span values, int valueStart, int valueEnd) {
+            startDraft();
+            keepElements(0, cursor.number);
+            addElement(type, bytes, elementPlace() + 1, values, valueStart, valueEnd);
+            keepElements(cursor.number + 1, cursor.count);
         }
 
         boolean finishDraft(int number) {

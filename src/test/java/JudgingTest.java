@@ -76,6 +76,7 @@ public final class JudgingTest {
         root("three bytes", 1, 0, Bytes.hex("050000"));
         root("four bytes", 1, 0, Bytes.hex("05000000"));
         root("LENGTH 4", 2, 0, Bytes.hex("0400000000"));
+        root("LENGTH 4 of four bytes", 2, 0, Bytes.hex("04000000"));
         root("LENGTH below 0", 2, 0, Bytes.hex("FFFFFFFF00"));
         root("LENGTH least", 2, 0, Bytes.hex("0000008000"));
         root("LENGTH 6 of 5", 1, 0, Bytes.hex("0600000000"));
@@ -143,6 +144,8 @@ public final class JudgingTest {
             inRoot("INT cut", 1, 7, Bytes.el(type, "a", Bytes.hex("010000")));
             inRoot("LENGTH 0", 2, 7, Bytes.el(type, "a", Bytes.hex("00000000 00")));
             inRoot("LENGTH below 0", 2, 7, Bytes.el(type, "a", Bytes.hex("FFFFFFFF 00")));
+            inRoot("LENGTH 0 at the wall", 2, 7, Bytes.el(type, "a", Bytes.hex("00000000")));
+            inRoot("LENGTH 1 at the wall", 1, 7, Bytes.el(type, "a", Bytes.hex("01000000")));
             inRoot("LENGTH beyond", 1, 7, Bytes.el(type, "a", Bytes.hex("02000000 00")));
             inRoot("LENGTH greatest", 1, 7, Bytes.el(type, "a", Bytes.hex("FFFFFF7F 00")));
             inRoot("last byte", 4, 12, Bytes.el(type, "a", Bytes.hex("02000000 FF01")));

@@ -27,6 +27,11 @@ public final class ModelTest {
     }
 
     private void run(int seed) {
+        for (int s = 0; s < 4; s++) {
+            int shelf = s;
+            tape(firstDocument());
+            both("run " + seed + ": take(" + s + ")", () -> x.take(shelf), () -> m.take(shelf));
+        }
         for (int k = 0; k < 160 && CHECKS.isClean(); k++) {
             String call = step();
             String what = "run " + seed + ", call " + k + ": " + call;
@@ -96,11 +101,31 @@ public final class ModelTest {
     }
 
     private byte[] text() {
-        return Bytes.text(chance(10) ? "\0x" : chance(style == 3 ? 40 : 5) ? "t".repeat(random.nextInt(400)) : name());
+        return Bytes.text(chance(10) ? "\0x" : chance(style > 2 ? 30 : 5) ? "t".repeat(random.nextInt(400)) : name());
+    }
+
+    /** Puts each style of run near the edges that it is for: long rows, great depths, much filled. */
+    private byte[] firstDocument() {
+        switch (style) {
+            case 1:
+                byte[] row = Bytes.row(10, new byte[(chance(50) ? 8 : 96) + random.nextInt(6)][0]);
+                return Bytes.doc(Bytes.el(chance(90) ? 4 : 3, name(), row), Bytes.el(15, "c", Bytes.scoped("f", doc(2, false))));
+            case 2:
+                byte[] deep = Bytes.doc(Bytes.el(10, ""), Bytes.el(3, "a", Bytes.doc()));
+                for (int k = random.nextInt(23); k > 0; k--) {
+                    deep = chance(70) ? Bytes.doc(Bytes.el(3, "", deep)) : chance(50) ? Bytes.row(4, Bytes.row(3, deep)) : Bytes.doc(Bytes.el(15, "", Bytes.scoped("", deep)));
+                }
+                return deep;
+            case 3:
+                byte[] small = Bytes.join(Bytes.el(3, "a", doc(1, false)), Bytes.el(4, "ab", doc(0, true)));
+                return Bytes.doc(small, Bytes.el(5, "b", Bytes.binary(0, Bytes.zeros(Math.max(0, 1900 - small.length)))));
+            default:
+                return doc(3, false);
+        }
     }
 
     private byte[] doc(int depth, boolean row) {
-        int count = chance(20) ? 0 : random.nextInt(row && chance(30) ? 15 : 4);
+        int count = chance(10) ? 0 : 1 + random.nextInt(row && chance(30) ? 15 : 5);
         byte[][] elements = new byte[count][];
         for (int i = 0; i < count; i++) {
             int t = TYPES[random.nextInt(TYPES.length)];
@@ -116,7 +141,7 @@ public final class ModelTest {
             case 2: case 13: case 14: return text();
             case 3: return chance(style == 2 ? 30 : 3) ? Bytes.nest(1 + random.nextInt(25)) : leaf ? Bytes.doc() : doc(depth - 1, false);
             case 4: return leaf ? Bytes.doc() : doc(depth - 1, true);
-            case 5: return chance(30) ? binaryTwo() : Bytes.binary(random.nextInt(256), some(style == 3 ? 700 : 12));
+            case 5: return chance(30) ? binaryTwo() : Bytes.binary(random.nextInt(256), some(style > 2 ? 700 : 12));
             case 7: return Bytes.zeros(12);
             case 8: return Bytes.one(random.nextInt(chance(5) ? 3 : 2));
             case 11: return Bytes.join(Bytes.nm(name()), Bytes.nm(name()));
@@ -175,6 +200,9 @@ public final class ModelTest {
 
     private String step() {
         int kind = random.nextInt(100);
+        if (style == 4 && chance(60)) {
+            return sheet();
+        }
         if (kind < 40) {
             return walk();
         }
@@ -249,9 +277,9 @@ public final class ModelTest {
         int t = type();
         int count = s >= 0 && s < 4 ? m.shelves[s].spot().doc.els.size() : 3;
         int i = chance(4) ? random.nextInt(60) - 20 : random.nextInt(count + 1);
-        switch (random.nextInt(style == 1 ? 14 : 9)) {
+        switch (random.nextInt(style == 1 || style == 3 ? 14 : 10)) {
             case 0:
-                if (chance(60)) {
+                if (chance(80)) {
                     return "nothing";
                 }
                 tape(spoil(doc(3, false)));
@@ -293,7 +321,7 @@ public final class ModelTest {
         int t = type();
         boolean row = !m.open.isEmpty() && m.open.get(m.open.size() - 1).isRow();
         int kind = random.nextInt(style == 4 ? 40 : 12);
-        if (kind == 0 || kind < 8 && m.sheet == null) {
+        if (kind == 0 && chance(style == 4 ? 10 : 100) || m.sheet == null && chance(95)) {
             x.begin();
             m.begin();
             return "begin";
@@ -302,14 +330,14 @@ public final class ModelTest {
             both("close()", () -> x.close(), () -> m.close());
             return "close";
         }
-        if (kind < 5) {
+        if (kind < 5 && chance(style == 4 ? 20 : 100)) {
             while (!m.open.isEmpty() && chance(90)) {
                 both("close()", () -> x.close(), () -> m.close());
             }
             both("lay(" + s + ")", () -> x.lay(s), () -> m.lay(s));
             return "lay";
         }
-        if (kind < 8) {
+        if (kind < (style == 4 ? 25 : 8)) {
             tape(spoil(named(row, value(t, 2))));
             both("write(" + t + ")", () -> x.write(t), () -> m.write(t));
             return "write";

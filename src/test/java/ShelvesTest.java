@@ -20,6 +20,7 @@ public final class ShelvesTest {
         sets();
         latest();
         tooBig();
+        manyElements();
         CHECKS.finish();
     }
 
@@ -202,6 +203,7 @@ public final class ShelvesTest {
         CHECKS.same("number", 5L, x.number(0));
         CHECKS.same("three empty parts", 2, path(x, "\0\0"));
         CHECKS.same("row's 2", 2, path(x, "c\0r\0" + "2"));
+        changeBehindPath();
         SpanShelves y = with(0, Bytes.nest(24));
         CHECKS.same("23 parts", 23, path(y, "\0".repeat(22)));
         CHECKS.same("depth", 23, y.look(0, 1));
@@ -215,6 +217,21 @@ public final class ShelvesTest {
         CHECKS.same("24 parts", 24, path(z, "\0".repeat(23)));
         CHECKS.same("depth", 24, z.look(0, 1));
         CHECKS.same("25 parts", 24, path(z, "\0".repeat(24)));
+    }
+
+    /** The way that a path leaves serves changes as one that was gone step by step. */
+    private static void changeBehindPath() {
+        byte[] inner = Bytes.doc(Bytes.el(10, "k"));
+        SpanShelves x = with(0, Bytes.doc(Bytes.el(10, "s"), Bytes.el(15, "c", Bytes.scoped("f", Bytes.doc(Bytes.el(10, "t"), Bytes.el(15, "d", Bytes.scoped("", inner)))))));
+        CHECKS.same("path", 3, path(x, "c\0d\0k"));
+        x.set(0, 16, 7);
+        byte[] changed = Bytes.doc(Bytes.el(16, "k", Bytes.i32(7)));
+        holds("set", x, 0, Bytes.doc(Bytes.el(10, "s"), Bytes.el(15, "c", Bytes.scoped("f", Bytes.doc(Bytes.el(10, "t"), Bytes.el(15, "d", Bytes.scoped("", changed)))))));
+        CHECKS.same("lengths", 5, x.latest(1));
+        x.out(0);
+        CHECKS.same("at d", 1, x.look(0, 5));
+        x.out(0);
+        CHECKS.same("at c", 1, x.look(0, 5));
     }
 
     private static void looking() {
@@ -654,6 +671,27 @@ public final class ShelvesTest {
         x.go(0, 0);
         CHECKS.same("copy fits", 2400 - 1384 + 1305, x.copy(0, 1));
         setTooBig();
+    }
+
+    /** As many elements as a shelf can have, of two bytes each. */
+    private static void manyElements() {
+        byte[][] elements = new byte[997][];
+        java.util.Arrays.fill(elements, Bytes.el(10, ""));
+        SpanShelves x = with(0, Bytes.doc(elements));
+        CHECKS.same("elements", 997, x.look(0, 2));
+        for (int k = 0; k < 200; k++) {
+            CHECKS.same("put", String.valueOf(2001 + 2 * k), put(x, 0, 997 + k, 255, Bytes.nm("")));
+        }
+        CHECKS.same("one more", "UnsupportedOperationException", put(x, 0, 0, 10, Bytes.nm("")));
+        CHECKS.same("elements", 1197, x.look(0, 2));
+        CHECKS.same("total", 1197, x.total(0, 0));
+        CHECKS.same("kinds", 200, x.kinds(0, 255));
+        CHECKS.same("go to the last one", true, x.go(0, 1196));
+        CHECKS.same("its place", 4 + 2 * 1196, x.look(0, 6));
+        CHECKS.same("go beyond", false, x.go(0, 1197));
+        CHECKS.same("move", true, x.move(0, 0));
+        CHECKS.same("find", 0, find(x, Bytes.raw("")));
+        CHECKS.same("drop", 2397, x.drop(0));
     }
 
     private static void setTooBig() {
