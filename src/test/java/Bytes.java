@@ -111,7 +111,8 @@ final class Bytes {
         }
     }
 
-    private static int four(byte[] bytes, int i) {
+    /** Four bytes from there on as a number for feed(), the first one its highest; 0s where there are none. */
+    static int four(byte[] bytes, int i) {
         int n = 0;
         for (int k = 0; k < 4; k++) {
             n = n << 8 | (i + k < bytes.length ? bytes[i + k] & 255 : 0);

@@ -96,19 +96,14 @@ final class Run {
         }
         make("end(0)");
         for (int i = 0; i < bytes.length; i += 20) {
-            make("feed(" + four(bytes, i) + ", " + four(bytes, i + 4) + ", " + four(bytes, i + 8) + ", " + four(bytes, i + 12) + ", " + four(bytes,
-                i + 16) + ")");
+            StringBuilder numbers = new StringBuilder().append(Bytes.four(bytes, i));
+            for (int k = 4; k < 20; k += 4) {
+                numbers.append(", ").append(Bytes.four(bytes, i + k));
+            }
+            make("feed(" + numbers + ")");
         }
         make("end(" + bytes.length + ")");
         return this;
-    }
-
-    private static int four(byte[] bytes, int i) {
-        int n = 0;
-        for (int k = i; k < i + 4; k++) {
-            n = n << 8 | (k < bytes.length ? bytes[k] & 255 : 0);
-        }
-        return n;
     }
 
     Run take(int shelf, byte[] document) {
