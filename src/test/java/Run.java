@@ -5,6 +5,7 @@ import java.util.HashMap;
 import java.util.List;
 import java.util.Map;
 import java.util.Set;
+import java.util.TreeSet;
 
 /**
  * A run of calls on a new object, each with the answer that is due. The calls are kept, so that all that shows of the
@@ -64,6 +65,11 @@ final class Run {
     Run(Checks checks, String title) {
         this.checks = checks;
         this.title = title;
+    }
+
+    /** The names of all methods that there are to call. */
+    static Set<String> face() {
+        return new TreeSet<>(FACE.keySet());
     }
 
     private String make(String text) {
